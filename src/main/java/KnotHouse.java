@@ -31,7 +31,7 @@ public final class KnotHouse {
     private final Faces faces = new Faces();
     private final Coder coder = new Coder();
     private final Reader reader = new Reader();
-    private final Mover mover = new Mover(coder, faces);
+    private final Mover mover = new Mover();
     private final Polynomials polynomials = new Polynomials();
     private final Arcs arcs = new Arcs();
     private final Chains chains = new Chains();
@@ -1312,13 +1312,8 @@ public final class KnotHouse {
         private final Net net = new Net();
         private final Net trial = new Net();
         private final Faces ground = new Faces();
-        private final Coder coder;
-        private final Faces faces;
-
-        Mover(Coder coder, Faces faces) {
-            this.coder = coder;
-            this.faces = faces;
-        }
+        private final Faces faces = new Faces();
+        private final Coder coder = new Coder();
 
         /** Adds what moves of a kind make, each once. */
         void collect(Codes from, int slot, int kind, Codes into) {
@@ -1507,10 +1502,9 @@ public final class KnotHouse {
     private static final class Reader {
         int length;
         private final byte[] tape = new byte[TAPE_BYTES];
-        /** Which crossing a name has, and where the visits of a crossing begin. */
+        /** Which crossing a name has, and where in the text each visit begins; NONE: it has not come. */
         private final int[] crossingOf = new int[100];
         private final int[] begins = new int[MAX_VISITS];
-        private final boolean[] read = new boolean[MAX_VISITS];
         private int at;
         private int name;
 
@@ -1524,7 +1518,7 @@ public final class KnotHouse {
         /** The place of the fault, or NONE; that the net is plane is not looked at. */
         int readDiagram(Net net) {
             Arrays.fill(crossingOf, NONE);
-            Arrays.fill(read, false);
+            Arrays.fill(begins, NONE);
             net.empty();
             at = 0;
             int components = 1;
@@ -1605,10 +1599,9 @@ public final class KnotHouse {
                 net.sign[x] = sign;
             }
             int v = 2 * x + (tape[begin] == 'u' ? 1 : 0);
-            if (read[v] || net.sign[x] != sign) {
+            if (begins[v] != NONE || net.sign[x] != sign) {
                 return NONE;
             }
-            read[v] = true;
             begins[v] = begin;
             return v;
         }
@@ -1616,7 +1609,7 @@ public final class KnotHouse {
         private int firstLonely(Net net) {
             int least = NONE;
             for (int v = 0; v < 2 * net.crossings; v++) {
-                if (read[v] && !read[v ^ 1] && (least == NONE || begins[v] < least)) {
+                if (begins[v] != NONE && begins[v ^ 1] == NONE && (least == NONE || begins[v] < least)) {
                     least = begins[v];
                 }
             }
@@ -2218,7 +2211,8 @@ public final class KnotHouse {
         /** Where the kept row with its first number in this column begins and ends; NONE: there is none. */
         private int[] rowFrom = new int[640];
         private int[] rowTo = new int[640];
-        private boolean[] cleared = new boolean[640];
+        /** 1 for generators that need not be looked at. */
+        private int[] cleared = new int[640];
         private int[] columns = new int[20000];
         private int[] values = new int[20000];
         private int used;
@@ -2269,8 +2263,9 @@ public final class KnotHouse {
 
         /** Moves leave the ranks alike, so those that take crossings away make the work small. */
         private void tidy() {
-            for (int i = 0; i < MOST && tidyOnce(); i++) {
-                continue;
+            boolean found = true;
+            for (int i = 0; i <= MOST && found; i++) {
+                found = tidyOnce();
             }
         }
 
@@ -2332,7 +2327,7 @@ public final class KnotHouse {
                 before = rank;
                 // D of D is 0: generators that begin a D of something need not be looked at.
                 for (int g = 0; g < sizes[ones + 1]; g++) {
-                    cleared[g] = rank > 0 && rowFrom[g] != NONE;
+                    cleared[g] = rank > 0 && rowFrom[g] != NONE ? 1 : 0;
                 }
             }
         }
@@ -2350,7 +2345,7 @@ public final class KnotHouse {
             for (int ones = 0; ones < sizes.length; ones++) {
                 makeRoom(sizes[ones]);
             }
-            Arrays.fill(cleared, false);
+            Arrays.fill(cleared, 0);
         }
 
         private void makeRoom(int size) {
@@ -2358,7 +2353,7 @@ public final class KnotHouse {
                 work = new int[2 * size];
                 rowFrom = new int[2 * size];
                 rowTo = new int[2 * size];
-                cleared = new boolean[2 * size];
+                cleared = new int[2 * size];
             }
         }
 
@@ -2374,7 +2369,7 @@ public final class KnotHouse {
                     continue;
                 }
                 for (int set = 0; set < 1 << loops[state]; set++) {
-                    if (Integer.bitCount(set) == plus[state] && !cleared[begins[state] + placeOf[set]]) {
+                    if (Integer.bitCount(set) == plus[state] && cleared[begins[state] + placeOf[set]] == 0) {
                         writeImage(state, set);
                         rank += reduce(width);
                     }
@@ -2504,6 +2499,8 @@ public final class KnotHouse {
     /** A braid in normal form; a simple one is the places to which it takes 0, 1, .., four bits each. */
     private static final class Form {
         private static final int ROOM = 24;
+        /** A delta of five strands has so many. */
+        private static final int LETTERS = 10;
 
         int strands;
         int power;
@@ -2547,19 +2544,15 @@ public final class KnotHouse {
             return result;
         }
 
-        /** The simple one, a letter behind it. */
-        private static int withLetterBehind(int simple, int place, int strands) {
-            int inverse = invert(simple, strands);
-            int one = image(inverse, place);
-            int two = image(inverse, place + 1);
-            int both = place ^ place + 1;
-            return simple ^ both << 4 * one ^ both << 4 * two;
-        }
-
-        /** The simple one without the letter with which it begins. */
-        private static int withoutLetterBefore(int simple, int place) {
+        /** The images of a place and the next one change: a letter comes, or goes, before the simple one. */
+        private static int exchanged(int simple, int place) {
             int both = image(simple, place) ^ image(simple, place + 1);
             return simple ^ both << 4 * place ^ both << 4 * (place + 1);
+        }
+
+        /** A letter comes, or goes, behind the simple one. */
+        private static int exchangedBehind(int simple, int place, int strands) {
+            return invert(exchanged(invert(simple, strands), place), strands);
         }
 
         void begin(int count) {
@@ -2591,7 +2584,7 @@ public final class KnotHouse {
         void takeLetter(int letter) {
             int place = Math.abs(letter) - 1;
             if (letter > 0) {
-                putBehind(withLetterBehind(identity(strands), place, strands));
+                putBehind(exchanged(identity(strands), place));
                 return;
             }
             // A capital letter is a delta taken away, and the rest of that delta.
@@ -2599,7 +2592,7 @@ public final class KnotHouse {
                 factors[i] = turned(factors[i], strands);
             }
             power--;
-            putBehind(withLetterBehind(delta(strands), place, strands));
+            putBehind(exchangedBehind(delta(strands), place, strands));
         }
 
         void putBehind(int simple) {
@@ -2608,8 +2601,9 @@ public final class KnotHouse {
             }
             factors[length] = simple;
             length++;
-            for (int i = length - 2; i >= 0 && weigh(i); i--) {
-                continue;
+            boolean changed = true;
+            for (int i = length - 2; i >= 0 && changed; i--) {
+                changed = weigh(i);
             }
             strip();
         }
@@ -2622,31 +2616,39 @@ public final class KnotHouse {
             System.arraycopy(factors, 0, factors, 1, length);
             factors[0] = simple;
             length++;
-            for (int i = 0; i < length - 1 && weigh(i); i++) {
-                continue;
+            boolean changed = true;
+            for (int i = 0; i < length - 1 && changed; i++) {
+                changed = weigh(i);
             }
             strip();
         }
 
         /** Letters go from a factor to the one before it as long as that one stays simple: whether one did. */
         private boolean weigh(int i) {
-            boolean changed = false;
-            int first = factors[i];
+            int inverse = invert(factors[i], strands);
             int second = factors[i + 1];
-            int inverse = invert(first, strands);
-            for (int x = 0; x < strands - 1; x++) {
-                if (image(second, x) > image(second, x + 1) && image(inverse, x) < image(inverse, x + 1)) {
-                    int both = image(inverse, x) ^ image(inverse, x + 1);
-                    inverse ^= both << 4 * x ^ both << 4 * (x + 1);
-                    second = withoutLetterBefore(second, x);
-                    changed = true;
-                    // A letter that could not go before may go now.
-                    x = -1;
-                }
+            int x = movable(inverse, second);
+            if (x == NONE) {
+                return false;
+            }
+            for (int gone = 0; gone < LETTERS && x != NONE; gone++) {
+                inverse = exchanged(inverse, x);
+                second = exchanged(second, x);
+                x = movable(inverse, second);
             }
             factors[i] = invert(inverse, strands);
             factors[i + 1] = second;
-            return changed;
+            return true;
+        }
+
+        /** A letter with which the second may begin and the first, of which the inverse is told, may go on. */
+        private int movable(int inverse, int second) {
+            for (int x = 0; x < strands - 1; x++) {
+                if (image(second, x) > image(second, x + 1) && image(inverse, x) < image(inverse, x + 1)) {
+                    return x;
+                }
+            }
+            return NONE;
         }
 
         private void strip() {
