@@ -2506,6 +2506,8 @@ public final class KnotHouse {
         int power;
         int length;
         final int[] factors = new int[ROOM];
+        private int identity;
+        private int delta;
 
         static int image(int simple, int j) {
             return simple >> 4 * j & 15;
@@ -2519,7 +2521,7 @@ public final class KnotHouse {
             return inverse;
         }
 
-        static int identity(int strands) {
+        private static int identityOf(int strands) {
             int simple = 0;
             for (int j = 0; j < strands; j++) {
                 simple |= j << 4 * j;
@@ -2527,7 +2529,7 @@ public final class KnotHouse {
             return simple;
         }
 
-        static int delta(int strands) {
+        private static int deltaOf(int strands) {
             int simple = 0;
             for (int j = 0; j < strands; j++) {
                 simple |= strands - 1 - j << 4 * j;
@@ -2559,10 +2561,12 @@ public final class KnotHouse {
             strands = count;
             power = 0;
             length = 0;
+            identity = identityOf(count);
+            delta = deltaOf(count);
         }
 
         void copy(Form from) {
-            strands = from.strands;
+            begin(from.strands);
             power = from.power;
             length = from.length;
             System.arraycopy(from.factors, 0, factors, 0, length);
@@ -2584,7 +2588,7 @@ public final class KnotHouse {
         void takeLetter(int letter) {
             int place = Math.abs(letter) - 1;
             if (letter > 0) {
-                putBehind(exchanged(identity(strands), place));
+                putBehind(exchanged(identity, place));
                 return;
             }
             // A capital letter is a delta taken away, and the rest of that delta.
@@ -2592,7 +2596,7 @@ public final class KnotHouse {
                 factors[i] = turned(factors[i], strands);
             }
             power--;
-            putBehind(exchangedBehind(delta(strands), place, strands));
+            putBehind(exchangedBehind(delta, place, strands));
         }
 
         void putBehind(int simple) {
@@ -2653,13 +2657,13 @@ public final class KnotHouse {
 
         private void strip() {
             int deltas = 0;
-            while (deltas < length && factors[deltas] == delta(strands)) {
+            while (deltas < length && factors[deltas] == delta) {
                 deltas++;
             }
             power += deltas;
             length -= deltas;
             System.arraycopy(factors, deltas, factors, 0, length);
-            while (length > 0 && factors[length - 1] == identity(strands)) {
+            while (length > 0 && factors[length - 1] == identity) {
                 length--;
             }
         }
@@ -2711,6 +2715,8 @@ public final class KnotHouse {
         private final int[] order = new int[SUMMIT_LIMIT + 1];
         private final Form work = new Form();
         private final int[] simples = new int[24];
+        private final int[] changes = new int[24];
+        private final int[] stayed = new int[24];
         private int simpleCount;
 
         /** How many are in the set of a braid, or OPEN. */
@@ -2728,23 +2734,37 @@ public final class KnotHouse {
             return OPEN;
         }
 
+        /** Those of fewer letters come first; the empty one is left out. */
         private void listSimples() {
             simpleCount = 0;
-            int most = 1 << 2 * strands;
-            for (int number = 0; number < most; number++) {
-                int simple = 0;
-                int places = 0;
-                for (int j = 0; j < strands; j++) {
-                    int place = number >> 2 * j & 3;
-                    simple |= place << 4 * j;
-                    places |= 1 << place;
-                }
-                boolean moves = simple != Form.identity(strands);
-                if (moves && places == (1 << strands) - 1 && simpleCount < simples.length) {
-                    simples[simpleCount] = simple;
-                    simpleCount++;
+            for (int letters = 1; letters <= 6; letters++) {
+                for (int number = 0; number < 1 << 2 * strands; number++) {
+                    int simple = 0;
+                    int places = 0;
+                    for (int j = 0; j < strands; j++) {
+                        int place = number >> 2 * j & 3;
+                        simple |= place << 4 * j;
+                        places |= 1 << place;
+                    }
+                    boolean good = places == (1 << strands) - 1 && simpleCount < simples.length;
+                    if (good && Integer.bitCount(changesOf(simple)) == letters) {
+                        simples[simpleCount] = simple;
+                        changes[simpleCount] = changesOf(simple);
+                        simpleCount++;
+                    }
                 }
             }
+        }
+
+        /** Which two strands change in a simple one, a bit for each two. */
+        private int changesOf(int simple) {
+            int result = 0;
+            for (int i = 0; i < strands; i++) {
+                for (int j = i + 1; j < strands; j++) {
+                    result |= Form.image(simple, i) > Form.image(simple, j) ? 1 << 4 * i + j : 0;
+                }
+            }
+            return result;
         }
 
         private void climb() {
@@ -2772,8 +2792,11 @@ public final class KnotHouse {
         /** Goes on from each found one; false if a better one was met, which is in work then. */
         private boolean gather() {
             for (int i = 0; i < size && size <= SUMMIT_LIMIT; i++) {
+                int stays = 0;
                 for (int s = 0; s < simpleCount && size <= SUMMIT_LIMIT; s++) {
-                    work.strands = strands;
+                    if (goesOn(s, stays)) {
+                        continue;
+                    }
                     work.power = power;
                     work.length = length;
                     System.arraycopy(rows, i * WIDTH, work.factors, 0, length);
@@ -2783,10 +2806,22 @@ public final class KnotHouse {
                     }
                     if (work.power == power && work.length == length) {
                         add();
+                        stayed[stays] = changes[s];
+                        stays++;
                     }
                 }
             }
             return true;
+        }
+
+        /** Whether a simple one begins with one that led into the set: the rest of it goes on from there. */
+        private boolean goesOn(int s, int stays) {
+            for (int t = 0; t < stays; t++) {
+                if ((stayed[t] & ~changes[s]) == 0) {
+                    return true;
+                }
+            }
+            return false;
         }
 
         /** The work form is kept, if it is new. */

@@ -1,6 +1,13 @@
 /** What the tests share: making diagrams and braids, and telling which answers are not due. */
 final class Bench {
+    static final String INDEX = "IndexOutOfBoundsException";
+    static final String ARGUMENT = "IllegalArgumentException";
+    static final String UNSUPPORTED = "UnsupportedOperationException";
+    static final String STATE = "IllegalStateException";
     static final String NOTHING = "nothing";
+
+    static final String TREFOIL = "o1+u2+o3+u1+o2+u3+";
+    static final String HOPF = "o1+u2+;u1+o2+";
 
     private int wrong;
     private int asked;
@@ -41,7 +48,7 @@ final class Bench {
         return d;
     }
 
-    /** The code of a diagram, read from outside: visits as o or u, crossing, sign; a bar behind each component. */
+    /** A diagram as it is numbered: a text in which each component has its bar behind it. */
     static String show(KnotHouse house, int d) {
         StringBuilder text = new StringBuilder();
         int visits = 2 * house.figure(d, 0);
@@ -51,13 +58,55 @@ final class Bench {
                 text.append('|');
             }
             text.append(house.visit(d, i, 2) == 0 ? 'o' : 'u');
-            text.append(house.visit(d, i, 1) + 1);
+            text.append(house.visit(d, i, 1));
             text.append(house.visit(d, i, 3) > 0 ? '+' : '-');
         }
         for (; component < house.figure(d, 1); component++) {
             text.append('|');
         }
         return text.toString();
+    }
+
+    /** A text from which the diagram can be read again. */
+    static String text(KnotHouse house, int d) {
+        StringBuilder text = new StringBuilder();
+        int component = 0;
+        for (int i = 0; i < 2 * house.figure(d, 0); i++) {
+            for (; component < house.visit(d, i, 0); component++) {
+                text.append(';');
+            }
+            text.append(house.visit(d, i, 2) == 0 ? 'o' : 'u');
+            text.append(house.visit(d, i, 1) + 1);
+            text.append(house.visit(d, i, 3) > 0 ? '+' : '-');
+        }
+        for (; component < house.figure(d, 1) - 1; component++) {
+            text.append(';');
+        }
+        return text.toString();
+    }
+
+    /** What end(n) does, as an answer. */
+    static Object end(KnotHouse house, int n) {
+        house.end(n);
+        return NOTHING;
+    }
+
+    /** Circles come to all places that are free. */
+    static void fillDiagrams(KnotHouse house) {
+        for (int i = 0; i < 40; i++) {
+            if (!house.alike(i, i)) {
+                diagram(house, "");
+            }
+        }
+    }
+
+    /** Empty braids of two strands come to all places that are free. */
+    static void fillBraids(KnotHouse house) {
+        for (int i = 0; i < 20; i++) {
+            if (!house.equal(i, i)) {
+                braid(house, 2, "");
+            }
+        }
     }
 
     void due(String what, Object want, Call call) {
