@@ -7,6 +7,7 @@ import java.nio.file.Path;
 import java.util.List;
 import java.util.Set;
 import java.util.TreeSet;
+import java.util.regex.Pattern;
 
 /** The face is that of the document, and the source keeps to what LANGUAGE.md can be tested for. */
 public final class FaceTest {
@@ -75,23 +76,35 @@ public final class FaceTest {
 
     private static void source() throws IOException {
         List<String> lines = Files.readAllLines(Path.of("src/main/java/KnotHouse.java"));
-        int begin = 0;
         for (int i = 0; i < lines.size(); i++) {
-            String line = lines.get(i);
-            String code = line.contains("//") || line.trim().startsWith("*") || line.trim().startsWith("/*") ? "" : line;
+            String line = lines.get(i).trim();
+            boolean comment = line.startsWith("//") || line.startsWith("*") || line.startsWith("/*");
+            int number = i + 1;
             for (String word : REFUSED) {
-                boolean there = code.matches(".*(?<![A-Za-z])" + java.util.regex.Pattern.quote(word) + "(?![A-Za-z]).*");
-                int number = i + 1;
+                boolean there = !comment && line.matches(".*(?<![A-Za-z])" + Pattern.quote(word) + "(?![A-Za-z]).*");
                 BENCH.due("line " + number + " has " + word, false, () -> there);
             }
-            if (line.matches(" {4,8}[A-Za-z].*\\) ?.*\\{")) {
-                begin = i;
-            } else if (line.equals("    }") || line.equals("        }")) {
-                int length = i - begin + 1;
-                int number = begin + 1;
-                BENCH.due("the method at line " + number + " has at most 60 lines", true,
-                    () -> length <= 60 || !lines.get(number - 1).contains("("));
+            if (isMethod(lines.get(i))) {
+                int length = lengthOf(lines, i);
+                BENCH.due("the method at line " + number + " has at most 60 lines", true, () -> length <= 60);
             }
         }
+    }
+
+    private static boolean isMethod(String line) {
+        return line.matches(" {4}( {4})?[A-Za-z].*\\(.*\\{")
+            && !line.trim().matches("(if|for|while|switch|else|do|return)\\b.*");
+    }
+
+    /** Up to the brace that stands as far in as the method begins. */
+    private static int lengthOf(List<String> lines, int begin) {
+        String head = lines.get(begin);
+        String end = head.substring(0, head.indexOf(head.trim())) + "}";
+        for (int i = begin; i < lines.size(); i++) {
+            if (lines.get(i).equals(end)) {
+                return i - begin + 1;
+            }
+        }
+        return Integer.MAX_VALUE;
     }
 }
