@@ -61,33 +61,35 @@ public final class AlikeTest {
         return all.toString();
     }
 
+    /** A house for each move, as one is made for 512 calls. */
     private static void followMoves(int strands, String word, Random random) {
-        KnotHouse house = new KnotHouse();
-        int d = Bench.closure(house, strands, word);
+        KnotHouse first = new KnotHouse();
+        String text = Bench.text(first, Bench.closure(first, strands, word));
         for (int i = 0; i < 4; i++) {
+            KnotHouse house = new KnotHouse();
+            int d = Bench.diagram(house, text);
             int count = house.moves(d, random.nextInt(5));
             if (count == 0) {
                 continue;
             }
             int moved = house.moved(random.nextInt(count));
-            String text = Bench.text(house, d);
             String movedText = Bench.text(house, moved);
             BENCH.due("numbers of " + text + ", moved", numbers(text), () -> numbers(movedText));
-            compareSlow(house, d, moved);
-            d = moved;
+            compareMaps(house, d, moved);
+            if (size(house, d) <= 9 && size(house, moved) <= 9) {
+                BENCH.due("ranks of " + text + ", moved", ranks(text), () -> ranks(movedText));
+            }
+            text = movedText;
         }
     }
 
-    private static void compareSlow(KnotHouse house, int before, int behind) {
+    private static int size(KnotHouse house, int d) {
+        return house.figure(d, 0) + house.figure(d, 3);
+    }
+
+    private static void compareMaps(KnotHouse house, int before, int behind) {
         if (house.figure(before, 0) <= 7 && house.figure(behind, 0) <= 7 && house.figure(before, 1) <= 4) {
             BENCH.due("maps, moved", house.maps(before, 4), () -> house.maps(behind, 4));
-        }
-        int size = house.figure(before, 0) + house.figure(before, 3);
-        int sizeBehind = house.figure(behind, 0) + house.figure(behind, 3);
-        if (Math.max(size, sizeBehind) <= 9) {
-            String text = Bench.text(house, before);
-            String movedText = Bench.text(house, behind);
-            BENCH.due("ranks of " + text + ", moved", ranks(text), () -> ranks(movedText));
         }
     }
 

@@ -85,6 +85,29 @@ final class Bench {
         return text.toString();
     }
 
+    /** How many diagrams a move makes, and all of them in the order of the list. */
+    static String list(KnotHouse house, int d, int kind) {
+        int count = house.moves(d, kind);
+        StringBuilder all = new StringBuilder();
+        all.append(count);
+        for (int k = 0; k < count; k++) {
+            int made = house.moved(k);
+            all.append(' ').append(show(house, made));
+            house.drop(made);
+        }
+        return all.toString();
+    }
+
+    static String list(String text, int kind) {
+        KnotHouse house = new KnotHouse();
+        return list(house, diagram(house, text), kind);
+    }
+
+    static String list(int strands, String word, int kind) {
+        KnotHouse house = new KnotHouse();
+        return list(house, closure(house, strands, word), kind);
+    }
+
     /** What end(n) does, as an answer. */
     static Object end(KnotHouse house, int n) {
         house.end(n);

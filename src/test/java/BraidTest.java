@@ -191,22 +191,30 @@ public final class BraidTest {
 
     /** All numbers of the polynomial in x and z. */
     private static String trace(int strands, String word) {
-        KnotHouse house = new KnotHouse();
-        int b = Bench.braid(house, strands, word);
         StringBuilder all = new StringBuilder();
         for (int i = -30; i <= 30; i++) {
-            for (int j = -12; j <= 12; j++) {
-                if (house.two(b, i, j) != 0) {
-                    all.append(house.two(b, i, j)).append(" x^").append(i).append(" z^").append(j).append(' ');
-                }
-            }
+            traceAt(strands, word, i, all);
         }
+        KnotHouse house = new KnotHouse();
+        int b = Bench.braid(house, strands, word);
         for (int i : FAR) {
             for (int j : FAR) {
                 BENCH.due("two far away", 0, () -> house.two(b, i, j));
             }
         }
         return all.toString().trim();
+    }
+
+    /** The numbers at one power of x; a house for each, as one is made for 512 calls. */
+    private static void traceAt(int strands, String word, int i, StringBuilder all) {
+        KnotHouse house = new KnotHouse();
+        int b = Bench.braid(house, strands, word);
+        for (int j = -12; j <= 12; j++) {
+            int number = house.two(b, i, j);
+            if (number != 0) {
+                all.append(number).append(" x^").append(i).append(" z^").append(j).append(' ');
+            }
+        }
     }
 
     private static void traces() {

@@ -19,55 +19,32 @@ public final class MoveTest {
         BENCH.finish();
     }
 
-    /** How many diagrams a move makes, and all of them in the order of the list. */
-    private static String list(KnotHouse house, int d, int kind) {
-        int count = house.moves(d, kind);
-        StringBuilder all = new StringBuilder();
-        all.append(count);
-        for (int k = 0; k < count; k++) {
-            int made = house.moved(k);
-            all.append(' ').append(Bench.show(house, made));
-            house.drop(made);
-        }
-        return all.toString();
-    }
-
-    private static String list(String text, int kind) {
-        KnotHouse house = new KnotHouse();
-        return list(house, Bench.diagram(house, text), kind);
-    }
-
-    private static String list(int strands, String word, int kind) {
-        KnotHouse house = new KnotHouse();
-        return list(house, Bench.closure(house, strands, word), kind);
-    }
-
     private static void oneGoesOrComes() {
-        BENCH.due("one goes", "1 |", () -> list("o1+u1+", 0));
-        BENCH.due("one of two goes", "2 o0+u0+| o0-u0-|", () -> list("o1+u1+u2-o2-", 0));
-        BENCH.due("none goes", "0", () -> list(Bench.TREFOIL, 0));
-        BENCH.due("none goes of a circle", "0", () -> list("", 0));
-        BENCH.due("one comes to a circle", "2 o0+u0+| o0-u0-|", () -> list("", 1));
-        BENCH.due("one comes to one of two circles", "2 o0+u0+|| o0-u0-||", () -> list(";", 1));
+        BENCH.due("one goes", "1 |", () -> Bench.list("o1+u1+", 0));
+        BENCH.due("one of two goes", "2 o0+u0+| o0-u0-|", () -> Bench.list("o1+u1+u2-o2-", 0));
+        BENCH.due("none goes", "0", () -> Bench.list(Bench.TREFOIL, 0));
+        BENCH.due("none goes of a circle", "0", () -> Bench.list("", 0));
+        BENCH.due("one comes to a circle", "2 o0+u0+| o0-u0-|", () -> Bench.list("", 1));
+        BENCH.due("one comes to one of two circles", "2 o0+u0+|| o0-u0-||", () -> Bench.list(";", 1));
         BENCH.due("one comes", "7 o0+u0+o1+u1+| o0+u0+o1-u1-| o0+u0+u1+o1+| o0+u0+u1-o1-|"
-            + " o0+o1-u1-u0+| o0+u1+o1+u0+| o0+u1-o1-u0+|", () -> list("o1+u1+", 1));
+            + " o0+o1-u1-u0+| o0+u1+o1+u0+| o0+u1-o1-u0+|", () -> Bench.list("o1+u1+", 1));
     }
 
     private static void twoGo() {
-        BENCH.due("of two components", "1 ||", () -> list("o1+o2-;u1+u2-", 2));
-        BENCH.due("of one", "1 |", () -> list("o1+o2-u2-u1+", 2));
-        BENCH.due("of one, in the other order", "1 o0+u0+|", () -> list("o1+o2-o3+u1+u2-u3+", 2));
-        BENCH.due("round the end of the row", "1 |", () -> list("o1+u1+u2-o2-", 2));
-        BENCH.due("like signs", "0", () -> list("o1+u2+;u1+o2+", 2));
-        BENCH.due("beside others", "1 o0+u0+||", () -> list(3, "abA", 2));
+        BENCH.due("of two components", "1 ||", () -> Bench.list("o1+o2-;u1+u2-", 2));
+        BENCH.due("of one", "1 |", () -> Bench.list("o1+o2-u2-u1+", 2));
+        BENCH.due("of one, in the other order", "1 o0+u0+|", () -> Bench.list("o1+o2-o3+u1+u2-u3+", 2));
+        BENCH.due("round the end of the row", "1 |", () -> Bench.list("o1+u1+u2-o2-", 2));
+        BENCH.due("like signs", "0", () -> Bench.list("o1+u2+;u1+o2+", 2));
+        BENCH.due("beside others", "1 o0+u0+||", () -> Bench.list(3, "abA", 2));
     }
 
     private static void twoCome() {
-        BENCH.due("to a circle", "2 o0+u0+u1-o1-| o0+o1-u1-u0+|", () -> list("", 3));
-        BENCH.due("to two circles", "3 o0+u0+u1-o1-|| o0+o1-|u0+u1-| o0+o1-u1-u0+||", () -> list(";", 3));
+        BENCH.due("to a circle", "2 o0+u0+u1-o1-| o0+o1-u1-u0+|", () -> Bench.list("", 3));
+        BENCH.due("to two circles", "3 o0+u0+u1-o1-|| o0+o1-|u0+u1-| o0+o1-u1-u0+||", () -> Bench.list(";", 3));
         BENCH.due("to a loop", "8 o0+u0+o1+o2-u2-u1+| o0+u0+o1-o2+u2+u1-| o0+u0+u1+u2-o2-o1+| o0+u0+u1-u2+o2+o1-|"
             + " o0+o1+o2-u2-u1+u0+| o0+o1-o2+u0+u1-u2+| o0+o1-u2+o2+u1-u0+| o0+u1+o1+u0+u2-o2-|",
-            () -> list("o1+u1+", 3));
+            () -> Bench.list("o1+u1+", 3));
         KnotHouse house = new KnotHouse();
         int d = Bench.diagram(house, Bench.HOPF);
         BENCH.due("to a Hopf link", 10, () -> house.moves(d, 3));
@@ -84,12 +61,12 @@ public final class MoveTest {
     }
 
     private static void threePass() {
-        BENCH.due("three", "1 o0+o1+u2+u0+|u1+o2+|", () -> list(3, "aba", 4));
-        BENCH.due("with a capital", "1 o0+o1+o2-u0+|u1+u2-|", () -> list(3, "abA", 4));
+        BENCH.due("three", "1 o0+o1+u2+u0+|u1+o2+|", () -> Bench.list(3, "aba", 4));
+        BENCH.due("with a capital", "1 o0+o1+o2-u0+|u1+u2-|", () -> Bench.list(3, "abA", 4));
         BENCH.due("three faces", "3 o0+u0+o1-o2+u3+u1-u2+o3+| o0+u0+u1+o2+o3-o1+u2+u3-| o0+o1+o2-o3+u1+u2-u3+u0+|",
-            () -> list(3, "abaB", 4));
-        BENCH.due("no side over at both ends", "0", () -> list(3, "aBa", 4));
-        BENCH.due("a trefoil", "0", () -> list(Bench.TREFOIL, 4));
+            () -> Bench.list(3, "abaB", 4));
+        BENCH.due("no side over at both ends", "0", () -> Bench.list(3, "aBa", 4));
+        BENCH.due("a trefoil", "0", () -> Bench.list(Bench.TREFOIL, 4));
     }
 
     private static void limits() {

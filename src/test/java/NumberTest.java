@@ -167,17 +167,24 @@ public final class NumberTest {
 
     /** The sum, then each rank that is not 0. */
     private static String chain(int strands, String word, int p) {
-        KnotHouse house = new KnotHouse();
         StringBuilder all = new StringBuilder();
-        all.append(house.chain(Bench.closure(house, strands, word), p)).append(':');
+        all.append(sumOf(strands, word, p)).append(':');
         for (int i = -9; i <= 9; i++) {
-            for (int q = -30; q <= 30; q++) {
-                if (house.rank(i, q) != 0) {
-                    all.append(' ').append(i).append(',').append(q).append(' ').append(house.rank(i, q));
-                }
-            }
+            ranksAt(strands, word, p, i, all);
         }
         return all.toString();
+    }
+
+    /** The ranks of one H; a house for each, as one is made for 512 calls. */
+    private static void ranksAt(int strands, String word, int p, int i, StringBuilder all) {
+        KnotHouse house = new KnotHouse();
+        house.chain(Bench.closure(house, strands, word), p);
+        for (int q = -30; q <= 30; q++) {
+            int rank = house.rank(i, q);
+            if (rank != 0) {
+                all.append(' ').append(i).append(',').append(q).append(' ').append(rank);
+            }
+        }
     }
 
     private static void chains() {
