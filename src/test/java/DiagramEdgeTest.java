@@ -111,6 +111,8 @@ public final class DiagramEdgeTest {
         BENCH.due("nor over the end", 0, () -> house.figure(1, 5));
         Bench.diagram(house, Bench.HOPF + ";;o3-u3-");
         BENCH.due("in all", 1, () -> house.figure(2, 5));
+        Bench.diagram(house, "o1+u1+;o2+u2+;o3+o4-;u3+u4-");
+        BENCH.due("not in the last part", 0, () -> house.figure(3, 5));
     }
 
     /** "Of VISIT i of a DIAGRAM": numbered "from 0 on, through all PARTS". */

@@ -204,6 +204,10 @@ public final class NumberEdgeTest {
         for (int p : new int[] {3, 5, 7, 31, 991, 997}) {
             BENCH.due("p " + p, 4, () -> house.chain(0, p));
         }
+        BENCH.due("other ranks over 2", 12, () -> withClosure(5, "cDaacaB").chain(0, 2));
+        BENCH.due("than over 997", 8, () -> withClosure(5, "cDaacaB").chain(0, 997));
+        BENCH.due("where numbers other than 1 divide, 7", 16, () -> withClosure(3, "bbbaBBaa").chain(0, 7));
+        BENCH.due("where numbers other than 1 divide, 997", 16, () -> withClosure(3, "bbbaBBaa").chain(0, 997));
         int[] others = {1, 0, -1, -2, -3, 4, 6, 9, 25, 49, 529, 961, 989, 995, 996, 998, 999, 1009, 1013,
             Integer.MIN_VALUE, Integer.MAX_VALUE};
         Bench.closure(house, 2, TWELVE);

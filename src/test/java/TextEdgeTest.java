@@ -10,6 +10,7 @@ public final class TextEdgeTest {
 
     public static void main(String[] args) {
         mostComponentsAndCrossings();
+        mostInOnePart();
         lastCall();
         roundRows();
         circles();
@@ -24,6 +25,7 @@ public final class TextEdgeTest {
         bytesOfNumbers();
         feedBehindWhatIsCut();
         cuts();
+        whatIsCutIsGone();
         tapeIsUsedUp();
         bytesThatCannotStand();
         namesAndDigits();
@@ -55,6 +57,18 @@ public final class TextEdgeTest {
         BENCH.due("the last visit", 11, () -> house.visit(1, 23, 1));
         fault(TWELVE + ";", TWELVE.length());
         fault(TWELVE + "o13+u13+", TWELVE.length());
+    }
+
+    /** As many components and crossings as there can be in one part, of which the code is as long as can be. */
+    private static void mostInOnePart() {
+        String row = "o1+u2+;u1+o2+o3+u4+;u3+o4+o5+u6+;u5+o6+o7+u8+;u7+o8+o9+u10+;u9+o10+o11+u11+o12+u12+";
+        KnotHouse house = new KnotHouse();
+        BENCH.due("a row of six components", 0, () -> Bench.diagram(house, row));
+        BENCH.due("its code", "o0+u0+o1+u1+u2+o3+|o2+u3+u4+o5+|o4+u5+u6+o7+|o6+u7+u8+o9+|o8+u9+u10+o11+|o10+u11+|",
+            () -> Bench.show(house, 0));
+        BENCH.due("one part", 1, () -> house.figure(0, 3));
+        BENCH.due("its summands", 7, () -> house.summands(0));
+        BENCH.due("its mirror, twice", true, () -> house.alike(0, house.mirror(house.mirror(0))));
     }
 
     /** "An object is used for at most 512 calls after it has been made": the 512th still counts. */
@@ -234,6 +248,26 @@ public final class TextEdgeTest {
         }
         BENCH.due("sixteen", Bench.NOTHING, () -> Bench.end(house, 16));
         BENCH.due("that is a word", 0, () -> house.braid(2));
+    }
+
+    /** "THE TAPE is cut behind its first n bytes": what would go on there is not read. */
+    private static void whatIsCutIsGone() {
+        int[] due = {0, -2, -3, -4, -1, -6, -7, -8, 0};
+        for (int i = 0; i < due.length; i++) {
+            KnotHouse house = new KnotHouse();
+            int n = i;
+            house.feed(0x6f31322b, 0x7531322b, 0x6f31332b, 0x7531332b, 0x3b3b3b3b);
+            house.end(n);
+            BENCH.due("o12+u12+.., cut behind " + n, due[n], house::diagram);
+        }
+        KnotHouse house = new KnotHouse();
+        for (int n = 0; n <= 17; n++) {
+            int letters = n;
+            house.feed(0x61616161, 0x61616161, 0x61616161, 0x61616161, 0x61616161);
+            house.end(letters);
+            BENCH.due("letters behind which it is cut", letters > 16 ? -17 : letters, () -> house.braid(2));
+            BENCH.due("the word", letters > 16 ? 16 : letters, () -> house.normal(Math.min(letters, 16), 2));
+        }
     }
 
     /** "what reads it uses it up, also with a FAULT." */
