@@ -5,6 +5,7 @@ public final class NumberEdgeTest {
     private static final Bench BENCH = new Bench();
 
     public static void main(String[] args) {
+        beyondSixComponents();
         conwayOfCircles();
         conwayAtOtherPowers();
         jonesOfCircles();
@@ -37,6 +38,29 @@ public final class NumberEdgeTest {
         KnotHouse house = new KnotHouse();
         Bench.closure(house, strands, word);
         return house;
+    }
+
+    /** "Functions are of all DIAGRAMS, also beyond 6 COMPONENTS": what is smoothed, and states, may have more. */
+    private static void beyondSixComponents() {
+        String loops = "o1+u1+o2+u2+o3+u3+o4-u4-o5-u5-o6-u6-u7+o7+u8+o8+u9+o9+u10-o10-u11-o11-u12-o12-";
+        BENCH.due("twelve loops, C", 1, () -> with(loops).conway(0, 0));
+        BENCH.due("twelve loops, J", 1, () -> with(loops).jones(0, 0));
+        KnotHouse house = with(loops + ";;;;;");
+        int[] six = {-1, -5, -10, -10, -5, -1};
+        for (int i = 0; i < six.length; i++) {
+            int power = 4 * i - 10;
+            BENCH.due("beside five circles, A^" + power, six[i], () -> house.jones(0, power));
+        }
+        KnotHouse row = with("o1+u2+;u1+o2+o3+u4+;u3+o4+o5+u6+;u5+o6+o7+u8+;u7+o8+o9+u10+;u9+o10+o11+u11+o12+u12+");
+        for (int k = 0; k <= 12; k++) {
+            int power = k;
+            BENCH.due("a row of six components, z^" + k, k == 5 ? 1 : 0, () -> row.conway(0, power));
+        }
+        BENCH.due("its signature", -5, () -> row.signature(0));
+        for (int k = 0; k < 6; k++) {
+            int number = k;
+            BENCH.due("its cover", k < 5 ? 2 : KnotHouse.NONE, () -> row.cover(0, number));
+        }
     }
 
     /** "1 for one CIRCLE alone, 0 if there are two PARTS or more". */
