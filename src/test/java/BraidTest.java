@@ -159,6 +159,7 @@ public final class BraidTest {
         BENCH.due("a b", 2, () -> summit(3, "ab"));
         BENCH.due("figure eight", 4, () -> summit(3, "aBaBaBaBaBaBaBaB"));
         BENCH.due("many", 192, () -> summit(4, "aBbBaBBaacaBA"));
+        BENCH.due("of letters that change places", 2, () -> summit(4, "accacc"));
         BENCH.due("more than 200", KnotHouse.OPEN, () -> summit(4, "BBaaaCaccBBB"));
         BENCH.due("five strands", Bench.UNSUPPORTED, () -> summit(5, "a"));
     }
@@ -177,6 +178,8 @@ public final class BraidTest {
         BENCH.due("as many letters", 0, () -> conjugate(3, "aab", "aaa"));
         BENCH.due("a long one", 1, () -> conjugate(4, "abCbbaC", "CbAabCbbaCaBc"));
         BENCH.due("of one closure, not conjugate", 0, () -> conjugate(4, "aaabbC", "aaabbc"));
+        BENCH.due("sets as large, factors more", 0, () -> conjugate(4, "ccc", "cccccc"));
+        BENCH.due("sets of one each", 0, () -> conjugate(4, "BaaBCA", "acbAAb"));
         BENCH.due("a set is open", KnotHouse.OPEN, () -> conjugate(4, "BBaaaCaccBBB", "a"));
         BENCH.due("the other set is open", KnotHouse.OPEN, () -> conjugate(4, "a", "BBaaaCaccBBB"));
         BENCH.due("both are open", KnotHouse.OPEN, () -> conjugate(4, "cAccAABBcBAB", "BBaaaCaccBBB"));

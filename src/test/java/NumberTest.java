@@ -145,6 +145,11 @@ public final class NumberTest {
         return house.maps(Bench.closure(house, strands, word), m);
     }
 
+    private static int mapsOf(String text, int m) {
+        KnotHouse house = new KnotHouse();
+        return house.maps(Bench.diagram(house, text), m);
+    }
+
     private static void mapCounts() {
         BENCH.due("of one thing", 1, () -> maps(3, "aaBB", 1));
         BENCH.due("a trefoil, 2", 2, () -> maps(2, "aaa", 2));
@@ -159,6 +164,9 @@ public final class NumberTest {
         BENCH.due("four circles, 4", 331776, () -> maps(4, "", 4));
         BENCH.due("Borromean, 4", 3168, () -> maps(3, "aBaBaB", 4));
         BENCH.due("Hopf links, 4", 1032, () -> maps(3, "aabb", 4));
+        BENCH.due("two components and a circle, 3", 144,
+            () -> mapsOf("o1-o2-u3-o4-u5-u1-o6-u7-;u2-o3-u4-u6-o7-o5-;", 3));
+        BENCH.due("two components, 2", 4, () -> mapsOf("o1+u2-o3-u1+o4-u5-u6-u3-o2-o6-;u4-o5-", 2));
         BENCH.due("seven crossings", 24, () -> maps(2, "aaaaaaa", 4));
         BENCH.due("eight crossings", Bench.UNSUPPORTED, () -> maps(2, "aaaaaaaa", 4));
         BENCH.due("five components", Bench.UNSUPPORTED, () -> maps(5, "", 4));
