@@ -654,11 +654,6 @@ public final class KnotHouse {
             }
         }
 
-        void addAlways(Codes from, int at) {
-            int where = find(from, at);
-            insert(where < 0 ? -1 - where : where, from, at);
-        }
-
         /** Whether one code is in both. */
         boolean meets(Codes from) {
             for (int i = 0; i < size; i++) {
@@ -669,7 +664,7 @@ public final class KnotHouse {
             return false;
         }
 
-        private void insert(int where, Codes from, int at) {
+        void insert(int where, Codes from, int at) {
             if (size >= order.length) {
                 return;
             }
@@ -905,7 +900,7 @@ public final class KnotHouse {
                 int count = 1;
                 queue[0] = start;
                 part[start] = parts;
-                for (int i = 0; i < count; i++) {
+                for (int i = 0; i < count && i < visits; i++) {
                     int behind = next[queue[i]];
                     int mate = queue[i] ^ 1;
                     if (part[behind] == NONE) {
@@ -1221,7 +1216,8 @@ public final class KnotHouse {
             into.size = 0;
             for (int p = 0; p < net.parts; p++) {
                 encodePart(net, p);
-                into.addAlways(one, 0);
+                int where = into.find(one, 0);
+                into.insert(where < 0 ? -1 - where : where, one, 0);
             }
         }
 

@@ -9,7 +9,9 @@ import java.util.Map;
 
 /**
  * Replays the runs under src/test/runs: "new" makes an object, each other line is a call, " = " and the answer
- * that is due. They were written by a second, plainer program that follows the document word by word.
+ * that is due. They were written by a second, plainer program that follows the document word by word; those in rich.txt
+ * by a third one, which counts otherwise where that can be done (eigenvalues, chains without any move before them), and
+ * those in deep.txt by a fourth one (equal braids by what they do to a free group), which agrees with all the others.
  */
 public final class RunsTest {
     private static final Bench BENCH = new Bench();
